@@ -653,6 +653,7 @@ public final class AxleScale {
         private static final int COST = 100;
         private static final int NEVER = 1000000000;
 
+        /** Behind the last train, too: so each one ends where the next one begins. */
         final int[] firstAxleOfTrain = new int[MOST_AXLES + 1];
         final int[] firstCarOfTrain = new int[MOST_AXLES + 1];
         final int[] costOfTrain = new int[MOST_AXLES];
@@ -679,8 +680,8 @@ public final class AxleScale {
                 findValues(recording, first, firstAxleOfTrain[t + 1], NONE);
                 costOfTrain[t] = costOf(at(valueFrom, first));
                 cost += costOfTrain[t];
-                firstCarOfTrain[t] = cars;
-                firstCarOfTrain[t + 1] = cars + takeCars(recording, first);
+                takeCars(recording, first);
+                firstCarOfTrain[t + 1] = cars;
             }
         }
 
@@ -739,22 +740,17 @@ public final class AxleScale {
             return Math.floorDiv(value + COST - 1, COST);
         }
 
-        private int takeCars(Recording recording, int firstAxle) {
-            int before = cars;
-            int taken = 0;
-            for (int i = at(carFrom, firstAxle); i != NONE && before + taken < MOST_CARS;
-                    i = at(carFrom, i + 2)) {
+        private void takeCars(Recording recording, int firstAxle) {
+            for (int i = at(carFrom, firstAxle); i != NONE && cars < MOST_CARS; i = at(carFrom, i + 2)) {
                 if (i < 0 || i + 1 >= MOST_AXLES) {
                     break;
                 }
-                firstAxleOfCar[before + taken] = i;
-                carOfAxle[i] = before + taken;
-                carOfAxle[i + 1] = before + taken;
+                firstAxleOfCar[cars] = i;
+                carOfAxle[i] = cars;
+                carOfAxle[i + 1] = cars;
                 weight += recording.carWeight(i);
-                taken++;
+                cars++;
             }
-            cars = before + taken;
-            return taken;
         }
 
         int axlesOfTrain(int t) {

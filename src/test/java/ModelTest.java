@@ -16,7 +16,7 @@ import java.util.regex.Pattern;
  * plans of a train instead of choosing car by car, and follows all readings of a text at once.
  */
 public final class ModelTest {
-    private static final int RUNS = 900;
+    private static final int RUNS = 400;
     private static final int CALLS = 512;
     private static final int NONE = -1;
     private static final long INDEX = Long.MIN_VALUE;
@@ -381,13 +381,7 @@ public final class ModelTest {
         }
 
         void next() {
-            int method = toType.isEmpty() ? upTo(METHODS.length - 1) : 0;
-            if (METHODS[method].equals("leave") && upTo(2) > 0) {
-                method = 9;
-            }
-            if (METHODS[method].equals("suspect") && state.axles.size() > 24 && upTo(9) > 0) {
-                method = 4;
-            }
+            int method = toType.isEmpty() ? drawnMethod() : 0;
             lastMethod = method;
             int[] a = arguments(METHODS[method]);
             long number = METHODS[method].equals("runScript") ? script(a[0])
@@ -406,6 +400,21 @@ public final class ModelTest {
                 wrong = told + ", the model says " + lastWant;
             }
             calls.append(told).append("; ");
+        }
+
+        /** Calls that make the state or the text small are drawn less often. */
+        int drawnMethod() {
+            int method = upTo(METHODS.length - 1);
+            switch (METHODS[method]) {
+                case "leave": case "restore": case "undo": case "strike":
+                    return upTo(3) > 0 ? 9 : method;
+                case "clearText":
+                    return upTo(2) > 0 ? 10 : method;
+                case "suspect":
+                    return state.axles.size() > 24 && upTo(9) > 0 ? 4 : method;
+                default:
+                    return method;
+            }
         }
 
         int[] arguments(String method) {
@@ -482,7 +491,7 @@ public final class ModelTest {
             if (toType.isEmpty()) {
                 String record = writing();
                 // Behind a text that has begun, mostly another row.
-                toType = upTo(9) == 0 ? "" + (char) upTo(255)
+                toType = upTo(text.length() == 0 ? 40 : 15) == 0 ? "" + (char) upTo(255)
                         : text.length() > 0 && record.length() > 1 ? record.substring(1) : record;
             }
             if (upTo(200) == 0) {
@@ -499,7 +508,7 @@ public final class ModelTest {
             for (int k = 0; k < parts; k++) {
                 writePart(b, 0);
             }
-            if (upTo(3) == 0) {
+            if (upTo(7) == 0) {
                 String signs = "0123456789()R ";
                 b.setCharAt(upTo(b.length() - 1), signs.charAt(upTo(13)));
             }

@@ -266,6 +266,12 @@ public final class PromiseTest {
         x.clearText();
         type(x, "R" + "0101".repeat(29));
         due("a long text", NONE, x::errorPosition);
+        x.clearText();
+        type(x, "R2(3(");
+        due("a text with open rows", 5, x::errorPosition);
+        x.clearText();
+        type(x, "R0440");
+        due("nothing is open any more", NONE, x::errorPosition);
     }
 
     private static void told(String text, int want) {
@@ -362,6 +368,10 @@ public final class PromiseTest {
         AxleScale gap = rolled(1, 50, 4, 50, 10, 99, 11, 50, 4, 50);
         due("about(2)", 2, () -> gap.about(2));
         due("car(1, 5)", 21, () -> gap.car(1, 5));
+        AxleScale three = rolled(1, 50, 4, 50, 7, 50, 4, 50, 9, 50, 4, 50);
+        due("car(1, 5)", 7, () -> three.car(1, 5));
+        due("car(2, 5)", 9, () -> three.car(2, 5));
+        due("car(0, 3), the fastest there is", 600, () -> rolled(1, 50, 1, 50).car(0, 3));
         AxleScale slow = rolled(1, 50, 7, 50);
         due("car(0, 3), rounded down", 85, () -> slow.car(0, 3));
     }
@@ -390,6 +400,18 @@ public final class PromiseTest {
             due("train(0, " + b + ") without a car", noCar[b], () -> stray.train(0, b));
         }
         due("train(1, 0): a pause of just the end", 2, () -> stray.train(1, 0));
+        AxleScale all = full();
+        all.set(3, 2);
+        due("about(1)", 30, () -> all.about(1));
+        for (int t = 0; t < 30; t++) {
+            int[] alone = {t, 1, 0, 0, 15, NONE, NONE, NONE};
+            for (int what = 0; what <= 7; what++) {
+                int a = t;
+                int b = what;
+                due("train(" + a + ", " + b + ")", alone[b], () -> all.train(a, b));
+            }
+        }
+        dueThrow(all, "train(30, 0)", INDEX, () -> all.train(30, 0));
     }
 
     private static void promise10Setting() {
@@ -453,6 +475,11 @@ public final class PromiseTest {
         type(y, "R5(6(0102))");
         due("record() of 30", 30, y::record);
         due("axle(29, 1)", 2, () -> y.axle(29, 1));
+        y.strike(0);
+        y.strike(0);
+        y.clearText();
+        type(y, "R0707");
+        due("record() of a shorter text", 29, y::record);
         AxleScale z = typed("R5(6(0102))0102");
         dueThrow(z, "record() of 31", STATE, z::record);
         AxleScale broken = typed("R0440044");
@@ -815,6 +842,16 @@ public final class PromiseTest {
                 due("simulate(" + seed + ", " + m + ")", want, () -> x.simulate(seed, m));
                 duePicture("simulate", x, before);
             }
+        }
+        for (int seed = 0; seed < 200; seed++) {
+            int k = seed;
+            int m = 1 + seed % 60;
+            AxleScale y = new AxleScale();
+            y.set(3, 10 + seed % 50);
+            int want = simulated(y, k, m);
+            AxleScale z = new AxleScale();
+            z.set(3, 10 + seed % 50);
+            due("simulate(" + k + ", " + m + ")", want, () -> z.simulate(k, m));
         }
         due("undo(): simulate was no action", 6, x::undo);
         due("simulate(5, 60) of a new one", simulated(new AxleScale(), 5, 60),
