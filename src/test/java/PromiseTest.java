@@ -920,6 +920,11 @@ public final class PromiseTest {
         due("the first car begins first", 0, () -> first.car(0, 0));
         AxleScale second = rolled(1, 10, 4, 10, 8, 10, 4, 10, 4, 10);
         due("the second car begins first", 2, () -> second.car(1, 0));
+        // The last car at the end of a full scale, with fewer cars than there can be.
+        AxleScale last = full();
+        last.weigh(0, 99);
+        due("cars behind two stray axles", 14, () -> last.about(2));
+        due("the last car", 28, () -> last.car(13, 0));
         // The gap: 2 for each tick that is missing.
         AxleScale gap = rolled(1, 10, 4, 10, 5, 10, 4, 10);
         due("a tick is missing", 2, () -> gap.about(5));
