@@ -29,6 +29,7 @@ public final class ModelTest {
         "simulate", "save", "restore"};
 
     public static void main(String[] args) {
+        shortTexts();
         long[] answered = new long[METHODS.length];
         long[] thrown = new long[METHODS.length];
         for (int run = 0; run < RUNS; run++) {
@@ -54,6 +55,36 @@ public final class ModelTest {
             }
         }
         System.out.println("the class and the model agree in " + RUNS + " runs");
+    }
+
+    /** All short texts of the signs that matter, behind the beginnings where much is decided. */
+    private static void shortTexts() {
+        String[] beginnings = {"", "R", "R0", "R04", "R044", "R2", "R2(", "R2(2(", "R2(2(2(", "R2(2(2(0440",
+            "R2(2(2(0440)", "R2(2(0440)", "R6(0440)"};
+        int texts = 0;
+        for (String beginning : beginnings) {
+            texts += checkTexts(beginning, 4);
+        }
+        System.out.println("the class and the model agree on " + texts + " short texts");
+    }
+
+    private static int checkTexts(String text, int more) {
+        AxleScale x = new AxleScale();
+        for (char c : text.toCharArray()) {
+            x.append(c);
+        }
+        int error = errorOf(text);
+        int told = error == NONE ? writtenOut(text).length() / 4 : NONE;
+        if (x.errorPosition() != error || x.axlesTold() != told) {
+            System.out.println("the text " + text + ": errorPosition() answered " + x.errorPosition()
+                    + " and axlesTold() " + x.axlesTold() + ", the model says " + error + " and " + told);
+            System.exit(1);
+        }
+        int texts = 1;
+        for (char c : (more == 0 ? "" : "R0124679()").toCharArray()) {
+            texts += checkTexts(text + c, more - 1);
+        }
+        return texts;
     }
 
     // ---- the model

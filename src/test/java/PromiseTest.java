@@ -1,4 +1,5 @@
 import java.util.function.IntSupplier;
+import java.util.function.Supplier;
 
 /** For each promise of ../shared/DOC.md: ordinary inputs, the edges it names, and wrong inputs. */
 public final class PromiseTest {
@@ -96,10 +97,12 @@ public final class PromiseTest {
         for (int what = 0; what <= 7; what++) {
             b.append(x.about(what)).append(' ');
         }
-        for (int i = 0; i < x.about(0); i++) {
+        int axles = x.about(0);
+        for (int i = 0; i < axles; i++) {
             b.append('/').append(x.axle(i, 0)).append(',').append(x.axle(i, 1));
         }
-        for (int t = 0; t < x.about(1); t++) {
+        int trains = x.about(1);
+        for (int t = 0; t < trains; t++) {
             b.append('b').append(x.train(t, 7));
         }
         for (int what = 0; what <= 3; what++) {
@@ -445,8 +448,10 @@ public final class PromiseTest {
         for (int i = 2; i < 30; i++) {
             due("roll number " + i, i, () -> x.roll(4, 4));
         }
-        dueThrow(x, "roll number 30", STATE, () -> x.roll(4, 4));
-        dueThrow(x, "roll(0, 4) number 30", ARGUMENT, () -> x.roll(0, 4));
+        dueThrow("roll number 30", STATE, () -> x.roll(4, 4));
+        AxleScale all = full();
+        dueThrow(all, "roll number 30", STATE, () -> all.roll(4, 4));
+        dueThrow("roll(0, 4) number 30", ARGUMENT, () -> all.roll(0, 4));
     }
 
     private static void promise12Record() {
@@ -602,19 +607,26 @@ public final class PromiseTest {
         due("axle(0, 1)", 2, () -> ends.axle(0, 1));
     }
 
+    private static AxleScale alike(int axles) {
+        AxleScale x = new AxleScale();
+        for (int k = 1; k <= axles; k++) {
+            x.roll(3 + k % 3, k);
+        }
+        return x;
+    }
+
     private static void promise18Undo() {
         promise = 18;
-        AxleScale x = new AxleScale();
-        String[] pictures = new String[21];
-        pictures[0] = picture(x);
-        for (int k = 1; k <= 20; k++) {
-            x.roll(3 + k % 3, k);
-            pictures[k] = picture(x);
+        for (int undone = 1; undone <= 14; undone++) {
+            AxleScale x = alike(20);
+            for (int left = 13; left >= 14 - undone; left--) {
+                due("undo()", left, x::undo);
+            }
+            duePicture(undone + " times undo()", x, picture(alike(20 - undone)));
         }
-        for (int k = 19; k >= 6; k--) {
-            int left = k - 6;
-            due("undo()", left, x::undo);
-            duePicture("undo()", x, pictures[k]);
+        AxleScale x = alike(20);
+        for (int k = 0; k < 14; k++) {
+            x.undo();
         }
         dueThrow(x, "undo(): at most 14 are remembered", STATE, x::undo);
         x.roll(4, 4);
@@ -640,16 +652,18 @@ public final class PromiseTest {
 
     private static void promise19Without() {
         promise = 19;
-        AxleScale x = twoTrains();
         for (int i = 0; i < 7; i++) {
             int k = i;
             AxleScale y = twoTrains();
             y.strike(k);
             int want = y.about(4);
-            String before = picture(x);
-            due("without(" + k + ")", want, () -> x.without(k));
-            duePicture("without(" + k + ")", x, before);
+            AxleScale z = twoTrains();
+            String before = picture(z);
+            due("without(" + k + ")", want, () -> z.without(k));
+            duePicture("without(" + k + ")", z, before);
+            due("undo(): without was no action", 6, z::undo);
         }
+        AxleScale x = twoTrains();
         due("without(6)", 183, () -> x.without(6));
         dueThrow(x, "without(-1)", INDEX, () -> x.without(-1));
         dueThrow(x, "without(7)", INDEX, () -> x.without(7));
@@ -725,8 +739,8 @@ public final class PromiseTest {
             count = more;
         }
         due("plans of 30", 999999, () -> x.plans(0));
-        dueThrow(x, "plans(1)", INDEX, () -> x.plans(1));
-        dueThrow(x, "plans(-1)", INDEX, () -> x.plans(-1));
+        dueThrow("plans(1)", INDEX, () -> x.plans(1));
+        dueThrow("plans(-1)", INDEX, () -> x.plans(-1));
         AxleScale y = twoTrains();
         due("plans(0)", 5, () -> y.plans(0));
         due("plans(1)", 3, () -> y.plans(1));
@@ -747,10 +761,15 @@ public final class PromiseTest {
         due("heavy(0) of 30", (1 << 30) - 1, () -> full().heavy(0));
     }
 
-    private static void script(AxleScale x, int n, long script, int want) {
+    private static void script(Supplier<AxleScale> scale, int n, long script, int want) {
+        AxleScale x = scale.get();
         String before = picture(x);
         due("runScript(" + n + ", " + script + ")", want, () -> x.runScript(n, script));
         duePicture("runScript", x, before);
+    }
+
+    private static void script(int n, long script, int want) {
+        script(PromiseTest::twoTrains, n, script, want);
     }
 
     private static void promise25RunScript() {
@@ -763,36 +782,36 @@ public final class PromiseTest {
         dueThrow(x, "runScript(2, 10^10)", ARGUMENT, () -> x.runScript(2, 10000000000L));
         dueThrow(x, "runScript(3, 10^15)", ARGUMENT, () -> x.runScript(3, 1000000000000000L));
         dueThrow(x, "runScript(3, MAX)", ARGUMENT, () -> x.runScript(3, Long.MAX_VALUE));
-        scriptsOfOneCommand(x);
-        script(x, 2, 60003L, 0);
-        script(x, 2, 6000360003L, NONE);
-        script(x, 2, 6000360004L, 1);
-        script(x, 3, 600036000360004L, 2);
-        script(x, 3, 600036000360003L, NONE);
-        script(x, 3, 600036000460005L, 1);
-        script(x, 3, 206006000370000L, NONE);
-        script(x, 3, 500005000060000L, NONE);
-        script(x, 3, 500005000050000L, 2);
-        script(x, 3, 500006000160002L, 2);
-        script(x, 2, 1049960004L, NONE);
-        script(x, 3, 105995000080240L, NONE);
-        script(x, 3, 105995000080241L, 2);
-        script(x, 2, 3009980102L, NONE);
-        script(x, 2, 3009980103L, 1);
-        script(x, 2, 3060280225L, 1);
-        script(x, 2, 4002070000L, 1);
-        script(x, 3, 436006000360004L, 2);
-        script(x, 2, 4200070007L, NONE);
-        due("undo(): no script was an action", 6, x::undo);
-        AxleScale all = full();
-        script(all, 1, 10404, 0);
-        script(all, 2, 5000010404L, NONE);
-        script(new AxleScale(), 1, 50000, 0);
-        script(new AxleScale(), 1, 90000, 0);
-        script(new AxleScale(), 1, 60000, NONE);
+        scriptsOfOneCommand();
+        script(2, 60003L, 0);
+        script(2, 6000360003L, NONE);
+        script(2, 6000360004L, 1);
+        script(3, 600036000360004L, 2);
+        script(3, 600036000360003L, NONE);
+        script(3, 600036000460005L, 1);
+        script(3, 206006000370000L, NONE);
+        script(3, 500005000060000L, NONE);
+        script(3, 500005000050000L, 2);
+        script(3, 500006000160002L, 2);
+        script(2, 1049960004L, NONE);
+        script(3, 105995000080240L, NONE);
+        script(3, 105995000080241L, 2);
+        script(2, 3009980102L, NONE);
+        script(2, 3009980103L, 1);
+        script(2, 3060280225L, 1);
+        script(2, 4002070000L, 1);
+        script(3, 436006000360004L, 2);
+        script(2, 4200070007L, NONE);
+        x.runScript(2, 5000010404L);
+        due("undo(): a script is no action", 6, x::undo);
+        script(PromiseTest::full, 1, 10404, 0);
+        script(PromiseTest::full, 2, 5000010404L, NONE);
+        script(AxleScale::new, 1, 50000, 0);
+        script(AxleScale::new, 1, 90000, 0);
+        script(AxleScale::new, 1, 60000, NONE);
     }
 
-    private static void scriptsOfOneCommand(AxleScale x) {
+    private static void scriptsOfOneCommand() {
         int[] succeed = {10101, 16099, 20000, 20600, 30001, 30699, 40010, 40200, 41010, 41400, 42000,
             42600, 43020, 43600, 50000, 60000, 60003, 70001, 70099, 80000, 80183, 90001, 90501, 90600};
         int[] fail = {0, 1, 9999, 10001, 10100, 16101, 20700, 20010, 20001, 29900, 30700, 30000,
@@ -800,10 +819,10 @@ public final class PromiseTest {
             50100, 51000, 60004, 60099, 60100, 61000, 70000, 70101, 71001, 80184, 89999, 90000, 90002,
             90010, 90011, 90500, 90601, 90700, 90701, 99901};
         for (int group : succeed) {
-            script(x, 1, group, NONE);
+            script(1, group, NONE);
         }
         for (int group : fail) {
-            script(x, 1, group, 0);
+            script(1, group, 0);
         }
     }
 
@@ -838,9 +857,11 @@ public final class PromiseTest {
         for (long seed : seeds) {
             for (int m : lengths) {
                 int want = simulated(twoTrains(), seed, m);
-                String before = picture(x);
-                due("simulate(" + seed + ", " + m + ")", want, () -> x.simulate(seed, m));
-                duePicture("simulate", x, before);
+                AxleScale y = twoTrains();
+                String before = picture(y);
+                due("simulate(" + seed + ", " + m + ")", want, () -> y.simulate(seed, m));
+                duePicture("simulate", y, before);
+                due("undo(): simulate is no action", 6, y::undo);
             }
         }
         for (int seed = 0; seed < 200; seed++) {
@@ -853,7 +874,6 @@ public final class PromiseTest {
             z.set(3, 10 + seed % 50);
             due("simulate(" + k + ", " + m + ")", want, () -> z.simulate(k, m));
         }
-        due("undo(): simulate was no action", 6, x::undo);
         due("simulate(5, 60) of a new one", simulated(new AxleScale(), 5, 60),
                 () -> new AxleScale().simulate(5, 60));
     }
